@@ -440,7 +440,7 @@ public final class WindCarver {
         if (!now.hasWork(cell)) {
             return STATE;
         }
-        return isOne(now.kinds[cell], kind) ? withoutFinding(cell) : found(KIND);
+        return isA(now.kinds[cell], kind) ? withoutFinding(cell) : found(KIND);
     }
 
     public int ask(int cell, int what) {
@@ -499,7 +499,7 @@ public final class WindCarver {
         return kind >= WALL && kind <= VANE;
     }
 
-    private static boolean isOne(int kind, int wanted) {
+    private static boolean isA(int kind, int wanted) {
         int next = kind;
         for (int step = 0; step < IS_TOO.length && isUpTo(next, VANE); step++) {
             if (next == wanted) {
@@ -813,7 +813,7 @@ public final class WindCarver {
         }
 
         private void bring(int x, int y, int much) {
-            if (!isLine(y)) {
+            if (y < 0 || y >= SIDE) {
                 lost += much;
             } else if (x >= SIDE) {
                 leaving[y] += much;

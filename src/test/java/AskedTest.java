@@ -64,11 +64,16 @@ public final class AskedTest {
         Check.run("promise 31", "trace 0 = NONE", "trace -1 = NONE", "trace 16 = NONE", KINDS, "ask 7 0 = -46",
                 "trace 5 = 20", "ask 2 0 = STATE", "ask 16 0 = BAD", "trace 5 = 20", "trace -1 = NONE",
                 "trace 2147483647 = NONE", "trace -2147483648 = NONE", "ask 12 0 = -56", "trace 1 = 10",
-                "trace 2 = NONE", "trace 5 = NONE", "read a0,0,0,0;b0,0,0,0; = 0", "trace 0 = 13", "ask 0 0 = STATE",
+                "trace 2 = NONE", "trace 5 = NONE", "ask 7 0 = -46", "ask 1 1 = 21", "trace 0 = 21", "trace 1 = 20",
+                "trace 2 = NONE", "ask 12 0 = -56", "read a0,0,0,0;b0,0,0,0; = 0", "trace 0 = 13", "ask 0 0 = STATE",
                 "trace 0 = 13");
     }
 
     private static void count() {
+        Check.run("promise 32, of now", "read a9,0,0,0;b1,0,0,0;h0,0,90; = 1", "count 3 = 9", "felt 0 5 = 14",
+                "count 3 = 9", "most 1 0 = 1", "count 3 = 9", "count 4 = 0", "lots 0 0 10 0 = 1", "count 4 = 0",
+                "lots 0 0 10 0 = 1", "count 3 = 9", "lots 0 0 10 0 = 1", "ask 0 0 = -10",
+                "hours 1 = 1", "count 3 = 10");
         Check.run("promise 32", "count -1 = BAD", "count 7 = BAD", "row 0 0 1 = 1", "row 5 1 2 = 2", "count 0 = 2",
                 "text a", "count 6 = 1", "pass = -1000101", "count 6 = 0",
                 "read a9,1,2,7;b1,0,0,0;w0,0,9;w0,3,50; = 2", "count 0 = 2", "count 1 = 2", "count 2 = 0",

@@ -54,23 +54,30 @@ public final class ForetoldTest {
                 "breaks 0 = 1", "setUp 8 4 0 = 2", "breaks 1 = 0");
         Check.run("promise 20, several", "read a5,5,5,5;b0,0,0,0;n3,3,4;n3,2,4;n0,0,5; = 3", "breaks 0 = 1",
                 "breaks 1 = 14", "take 14 = 2", "breaks 1 = 15", "take 15 = 1", "breaks 0 = NONE", "breaks 1 = NONE");
-        // GUST is 0, 31, 30, ..: it falls, so what holds 30 breaks in the second HOUR or never.
-        Check.run("promise 20, the last HOUR", "read a1,0,0,0;b31,0,0,0;w0,0,30; = 1", "breaks 0 = 3",
+        // GUST is 1, 0, 31: it is more than 30 in the third HOUR.
+        Check.run("promise 20, a gust that comes anew", "read a1,0,0,0;b31,0,0,0;w0,0,30; = 1", "breaks 0 = 3",
                 "hours 2 = 1", "breaks 0 = 1");
-        Check.run("promise 20, the 40th", "read a0,0,0,0;b1,0,0,0;v0,0,99;h1,1,22; = 2", "breaks 0 = 24",
-                "breaks 1 = 5", "take 5 = 1", "setUp 5 4 30 = 2", "breaks 0 = 32");
-        Check.run("promise 20, 40 and no more", "read a25,0,0,0;b1,0,0,0;w0,0,30; = 1", "breaks 0 = 7",
-                "take 0 = 0", "setUp 0 1 31 = 1", "breaks 0 = NONE");
+        Check.run("promise 20, by a vane in odd HOURS", "read a0,0,0,0;b1,0,0,0;v0,0,99;h1,1,22; = 2", "breaks 0 = 24",
+                "breaks 1 = 5");
+        // A GUST comes again behind 32 HOURS at the latest, so no WORK breaks first behind more.
+        Check.run("promise 20, as late as can be", "read a0,0,0,0;b1,0,0,0;v0,0,99;h1,1,30; = 2", "breaks 0 = 32",
+                "breaks 1 = 5", "take 5 = 1", "breaks 0 = NONE");
     }
 
     private static void stands() {
         Check.run("promise 21", "stands 8 0 = STATE", "read a5,6,7,8;b0,0,0,0; = 0", "stands 8 0 = BAD",
-                "stands -1 0 = BAD", "stands 0 0 = NULL", "stands 0 -1 = NULL", "row 0 0 15 = 15", "stands 0 0 = PLACE",
+                "stands -1 0 = BAD", "stands 0 0 = NULL", "stands 7 0 = NULL", "stands 0 -1 = NULL", "row 0 0 15 = 15",
+                "stands 0 0 = PLACE",
                 "row 0 2 17 = 17", "stands 0 -1 = PLACE", "stands 0 2 = PLACE", "stands 0 2147483647 = PLACE",
                 "stands 0 -2147483648 = PLACE", "stands 0 1 = 0", "set 0 1 5 = 5", "set 0 2 6 = 6", "set 0 3 7 = 7",
                 "set 0 4 8 = 8", "copy 0 1 0 5 4 = 4", "copy 0 1 0 9 8 = 8", "stands 0 1 = 40", "stands 0 0 = 0",
                 "set 0 16 9 = 9", "stands 0 1 = 0", "gust 3 9 = 8", "stands 0 1 = 0", "count 2 = 0");
-        // The hand breaks behind three HOURS; its row is told as it is while the hand stands: all 0.
+        // GUST is 0, 8, 16, 24, and 0 again: a row of 0 stands for the first HOUR alone.
+        for (int cell = 0; cell < 16; cell++) {
+            String item = "set 7 " + (cell + 2);
+            Check.run("promise 21, each cell", "read a0,0,0,0;b0,0,0,0; = 0", "row 7 0 18 = 18", "stands 7 2 = 40",
+                    item + " 1 = 1", "stands 7 2 = 0", item + " 0 = 0", "stands 7 2 = 40");
+        }
         Check.run("promise 21, HOURS without a gap", "read a0,0,0,0;b0,0,0,0; = 0", "row 1 1 16 = 16",
                 "stands 1 0 = 40", "read a0,0,0,0;b8,0,0,0; = 0", "stands 1 0 = 1", "hours 1 = 0", "stands 1 0 = 0",
                 "hours 3 = 0", "stands 1 0 = 1");
@@ -93,6 +100,17 @@ public final class ForetoldTest {
                 "walls 10 2 1 = 5", "walls 14 2 -1 = 2", "walls 14 2 0 = 0", "walls 14 2 1 = 5", "walls 10 3 -1 = NONE",
                 "walls 15 1 -1 = NONE", "gust 3 8 = 0", "walls 9 4 0 = 0", "walls 6 4 0 = 3", "walls 10 5 -1 = NONE",
                 "walls 10 4 -1 = 1", "walls 10 4 0 = 3");
+        Check.run("promise 22, two behind the first cells", "read a0,0,0,16;b0,0,0,0; = 0", "walls 10 8 -1 = 1",
+                "walls 10 8 0 = 3", "walls 9 4 -1 = 2", "walls 9 4 0 = 3", "walls 9 4 1 = 6", "walls 13 4 1 = 6",
+                "walls 13 2 0 = 3", "walls 12 4 -1 = NONE");
+        Check.run("promise 22, two side by side", "read a0,8,8,0;b0,0,0,0; = 0", "walls 4 4 0 = 1",
+                "walls 4 5 -1 = NONE", "walls 5 12 0 = 2", "walls 8 6 -1 = 2", "walls 8 6 0 = 2", "walls 8 6 1 = 5",
+                "walls 7 4 0 = 2", "walls 11 6 -1 = 2", "walls 11 6 0 = 1", "walls 11 6 1 = 6");
+        Check.run("promise 22, walls on one line of cells", "read a8,8,0,0;b0,0,0,0; = 0", "walls 9 8 -1 = 0",
+                "walls 10 6 -1 = 2", "walls 10 6 0 = 0", "walls 10 6 1 = 5", "setUp 9 4 0 = 1", "walls 14 8 -1 = NONE",
+                "walls 14 6 0 = 0", "walls 14 6 1 = 5");
+        Check.run("promise 22, two that follow", "read a0,8,0,8;b0,0,0,0;h0,1,99;h2,2,99; = 2", "walls 13 8 -1 = 2",
+                "walls 13 8 0 = 3", "walls 13 8 1 = 4", "walls 13 9 -1 = NONE");
         // Cells with WORKS are passed over, and there may be more WORKS than six.
         Check.run("promise 22, beside six WORKS",
                 "read a0,8,8,0;b0,0,0,0;n0,0,9;n0,3,9;n3,0,9;n3,1,9;n3,2,9;n3,3,9; = 6",
@@ -103,7 +121,8 @@ public final class ForetoldTest {
     private static void hidden() {
         Check.run("promise 23, wrong", "hidden 0 4 8 0 = STATE", "read a8,0,0,0;b0,0,0,0; = 0", "hidden 0 0 0 0 = BAD",
                 "hidden 6 0 0 0 = BAD", "hidden 1 4 0 0 = BAD", "hidden 1 -1 0 0 = BAD", "hidden 1 0 8 0 = BAD",
-                "hidden 1 0 -1 0 = BAD", "hidden 1 0 0 0 = NULL", "row 0 0 4 = 4", "hidden 1 0 0 1 = PLACE",
+                "hidden 1 0 -1 0 = BAD", "hidden 1 0 0 0 = NULL", "hidden 1 0 7 0 = NULL",
+                "row 0 0 4 = 4", "hidden 1 0 0 1 = PLACE",
                 "hidden 1 0 0 -1 = PLACE", "hidden 1 0 0 2147483647 = PLACE", "hidden 1 0 0 0 = 0");
         // 8 0 0 0 along row 0: a wall, a shutter or a hand on cell 0, a net lets 4 on.
         Check.run("promise 23", "read a8,0,0,0;b0,0,0,0; = 0", "row 0 0 5 = 5", "set 0 1 8 = 8",
@@ -148,8 +167,9 @@ public final class ForetoldTest {
         // A work that nothing comes to makes the fraction no other.
         Check.run("promise 25, six", "read a8,0,0,0;b0,0,0,0;w0,0,0;h0,1,0;h0,2,0;h0,3,0;h3,3,0;v3,2,0; = 6",
                 "lots 12 8 1 0 = 1", "lots 12 8 1 1 = 10", "lots 12 8 5 0 = 1", "lots 12 8 5 1 = 2");
-        Check.run("promise 25, six that hinder", "read a8,0,0,0;b0,0,0,0;w0,0,0;w1,0,0;w2,0,0;h3,0,0;h3,1,0;h1,1,0; = 6",
-                "lots 12 8 1 0 = 1", "lots 12 8 1 1 = 1000", "lots 13 4 3 0 = 483", "lots 13 4 3 1 = 1000");
+        Check.run("promise 25, six that hinder",
+                "read a8,0,0,0;b0,0,0,0;w0,0,0;w1,0,0;w2,0,0;h3,0,0;h3,1,0;h1,1,0; = 6", "lots 12 8 1 0 = 1",
+                "lots 12 8 1 1 = 1000", "lots 13 4 3 0 = 483", "lots 13 4 3 1 = 1000");
     }
 
     private static void images() {

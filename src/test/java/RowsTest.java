@@ -22,7 +22,9 @@ public final class RowsTest {
                 "set 7 39 9 = 9", "set 7 40 9 = PLACE",
                 "row 7 1 3 = 3", "count 0 = 2", "set 7 2 40000 = -25536", "set 7 3 1 = PLACE");
         Check.run("promise 2, ITEMS are 0", "read a0,0,0,0;b0,0,0,0; = 0", "row 0 0 16 = 16", "stands 0 0 = 40",
-                "set 0 5 1 = 1", "stands 0 0 = 0", "row 0 0 16 = 16", "stands 0 0 = 40");
+                "set 0 0 1 = 1", "stands 0 0 = 0", "row 0 0 16 = 16", "stands 0 0 = 40",
+                "set 0 15 1 = 1", "stands 0 0 = 0", "row 0 0 16 = 16", "stands 0 0 = 40",
+                "set 0 0 1 = 1", "drop 0 = 16", "row 0 0 16 = 16", "stands 0 0 = 40");
         Check.run("promise 2, wrong", "row -1 0 1 = BAD", "row 8 0 1 = BAD", "row 0 -1 1 = BAD", "row 0 3 1 = BAD",
                 "row 0 0 41 = BAD", "row 8 0 -1 = BAD", "row 0 3 -1 = BAD", "count 0 = 0",
                 "row 0 0 -1 = SIZE", "row 0 0 -2147483648 = SIZE", "count 0 = 0",
@@ -57,6 +59,8 @@ public final class RowsTest {
                 "row 1 0 17 = 17", "set 1 1 1 = 1", "set 1 2 2 = 2", "set 1 3 3 = 3", "set 1 4 4 = 4",
                 "copy 1 1 1 0 16 = 16", "copy 1 0 1 1 16 = 16", "copy 1 1 1 5 4 = 4", "copy 1 1 1 9 8 = 8",
                 "stands 1 1 = 40", "copy 1 1 1 0 16 = 16", "stands 1 0 = 40");
+        Check.run("promise 4, the last ROW", "row 7 1 2 = 2", "row 6 1 2 = 2", "copy 7 0 6 0 2 = 2",
+                "copy 6 0 7 0 2 = 2", "drop 7 = 2", "drop 6 = 2");
         Check.run("promise 4, edges", "row 0 0 3 = 3", "row 1 0 5 = 5", "copy 0 3 1 5 0 = 0", "copy 0 0 1 2 3 = 3",
                 "copy 0 4 1 0 0 = PLACE", "copy 0 0 1 6 0 = PLACE", "copy 0 1 1 0 3 = PLACE", "copy 0 0 1 3 3 = PLACE",
                 "copy 0 -1 1 0 1 = PLACE", "copy 0 0 1 -1 1 = PLACE", "copy 0 0 1 0 -1 = PLACE",

@@ -37,6 +37,9 @@ public final class TextTest {
                 "wind 0 0 = 31", "wind 2 0 = 9", "wind 1 1 = 31",
                 "cell 1 1 = 1", "cell 1 2 = 2", "cell 7 1 = 2", "cell 7 2 = 99", "cell 8 1 = 3", "cell 8 2 = 0",
                 "cell 8 3 = 0", "cell 15 1 = 4", "cell 15 2 = 5", "cell 12 1 = 5", "cell 12 2 = 10", "count 1 = 5");
+        Check.run("promise 7, HOUR 0", "read " + WINDS + " = 0", "hours 5 = 0", "felt 0 3 = 9",
+                "read " + WINDS + " = 0", "count 2 = 0", "wind 0 0 = 1", "felt 0 3 = 16", "image 1 = 1",
+                "text a", "hours 1 = 0", "pass = -1000101", "count 2 = 1", "wind 0 0 = 6");
         Check.run("promise 7, in place of the one before",
                 "read " + WINDS + "s0,0,99;w1,1,99; = 2", "turn 0 = 1", "hours 3 = 2", "image 0 = 1", "row 0 0 3 = 3",
                 "count 2 = 3", "count 5 = 4", "read a9,9,9,9;b0,0,0,0;s0,0,9; = 1", "count 2 = 0", "count 5 = 0",
