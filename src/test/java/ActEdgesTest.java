@@ -60,7 +60,8 @@ public final class ActEdgesTest {
                 "setUp 3 2 1 = 6");
         Check.edge("promise 9", "FULL: one that broke makes room", "read a2,0,0,0;b0,0,0,0;w0,0,1;n0,1,1;s0,2,1;h0,3,1;"
                 + "v2,3,1;w2,1,1; = 6", "setUp 15 1 1 = FULL", "hours 1 = 5", "setUp 15 1 1 = 6");
-        Check.edge("promise 9", "BAD, STATE, FULL", SIX, "setUp 16 1 1 = BAD", "setUp 6 6 1 = BAD", "setUp 6 1 100 = BAD",
+        Check.edge("promise 9", "BAD, STATE, FULL", SIX, "setUp 16 1 1 = BAD", "setUp 6 6 1 = BAD",
+                "setUp 6 1 100 = BAD",
                 "setUp 0 1 1 = STATE", "setUp 11 1 1 = FULL");
     }
 
@@ -68,7 +69,8 @@ public final class ActEdgesTest {
         Check.edge("promise 10", NO_PASS, Check.beyond("take #", 0, 15, "STATE"), "take 0 = STATE");
         Check.edge("promise 10", "BAD", SIX, Check.beyond("take #", 0, 15, "BAD"), "count 1 = 6", "count 5 = 0");
         Check.edge("promise 10", "STATE: there is none", FIVE, Check.each(5, 15, "take # = STATE"), "count 5 = 0",
-                "take 4 = 4", "take 4 = STATE", "take 3 = 3", "take 2 = 2", "take 1 = 1", "take 0 = 0", "take 0 = STATE",
+                "take 4 = 4", "take 4 = STATE", "take 3 = 3", "take 2 = 2", "take 1 = 1", "take 0 = 0",
+                "take 0 = STATE",
                 "count 5 = 5");
         Check.edge("promise 10", "STATE: there is none, it broke", "read a2,0,0,0;b0,0,0,0;w0,0,1; = 1", "hours 1 = 0",
                 "take 0 = STATE");
@@ -90,7 +92,8 @@ public final class ActEdgesTest {
     }
 
     private static void gust() {
-        Check.edge("promise 12", NO_PASS, Check.beyond("gust # 0", 0, 3, "STATE"), Check.beyond("gust 0 #", 0, 31, "STATE"));
+        Check.edge("promise 12", NO_PASS, Check.beyond("gust # 0", 0, 3, "STATE"), Check.beyond("gust 0 #",
+                0, 31, "STATE"));
         Check.edge("promise 12", "BAD: a row of the pass, 0 to 3", STILL, Check.beyond("gust # 5", 0, 3, "BAD"),
                 "count 5 = 0", "gust 0 5 = 0", "gust 3 6 = 0", "wind 0 0 = 5", "wind 3 0 = 6", "wind 1 0 = 0");
         Check.edge("promise 12", "BAD: (0 to 31)", STILL, Check.beyond("gust 1 #", 0, 31, "BAD"), "count 5 = 0",
@@ -108,10 +111,12 @@ public final class ActEdgesTest {
     }
 
     private static void hoursFull() {
-        Check.edge("promise 13", "FULL: beyond HOUR 999", "read a0,0,0,0;b1,0,0,0; = 0", Check.times(49, "hours 20 = 0"),
+        Check.edge("promise 13", "FULL: beyond HOUR 999", "read a0,0,0,0;b1,0,0,0; = 0",
+                Check.times(49, "hours 20 = 0"),
                 "count 2 = 980", "hours 20 = FULL", "count 2 = 980", "count 5 = 24", "wind 0 0 = 20", "hours 19 = 0",
                 "count 2 = 999", "hours 1 = FULL", "hours 20 = FULL", "count 2 = 999", "wind 0 0 = 7");
-        Check.edge("promise 13", "FULL: an HOUR less makes room", STILL, Check.times(49, "hours 20 = 0"), "hours 19 = 0",
+        Check.edge("promise 13", "FULL: an HOUR less makes room", STILL, Check.times(49, "hours 20 = 0"),
+                "hours 19 = 0",
                 "undo = 23", "count 2 = 998", "hours 2 = FULL", "hours 1 = 0", "count 2 = 999");
         Check.edge("promise 13", "BAD ahead of FULL", STILL, Check.times(49, "hours 20 = 0"), "hours 19 = 0",
                 Check.beyond("hours #", 1, 20, "BAD"));
@@ -141,7 +146,8 @@ public final class ActEdgesTest {
                     "hours 1 = 1", "gust 1 1 = 0", "hours 1 = 0");
         }
         Check.edge("promise 13", "more than they HOLD: 99",
-                "read a31,31,31,31;b0,0,0,0;v0,0,99;h0,2,99;h0,3,99;h1,2,99;w2,1,99; = 5", "felt 9 0 = 93", "hours 1 = 5",
+                "read a31,31,31,31;b0,0,0,0;v0,0,99;h0,2,99;h0,3,99;h1,2,99;w2,1,99; = 5", "felt 9 0 = 93",
+                "hours 1 = 5",
                 "cell 9 0 = 124", "gust 0 6 = 31", "cell 9 0 = 99", "hours 2 = 5", "cell 9 0 = 99", "gust 0 7 = 6",
                 "cell 9 0 = 100", "hours 1 = 4", "kind 9 = NONE");
         Check.edge("promise 13", "BREAK at once: by what is FELT ahead of all that break",
@@ -160,7 +166,8 @@ public final class ActEdgesTest {
                 "undo = STATE", "gust 0 1 = 0", STILL, "undo = STATE", "image 0 = 1", "gust 0 1 = 0", "restore 0 = 1",
                 "undo = STATE");
         Check.edge("promise 14", "what is refused is no ACT", SIX, "setUp 0 1 1 = STATE", "setUp 6 1 1 = FULL",
-                "setUp 16 1 1 = BAD", "take 6 = STATE", "take 16 = BAD", "turn 0 = STATE", "turn 16 = BAD", "gust 4 0 = BAD",
+                "setUp 16 1 1 = BAD", "take 6 = STATE", "take 16 = BAD", "turn 0 = STATE", "turn 16 = BAD",
+                "gust 4 0 = BAD",
                 "gust 0 32 = BAD", "hours 0 = BAD", "hours 21 = BAD", "count 5 = 0", "undo = STATE");
     }
 
@@ -195,7 +202,8 @@ public final class ActEdgesTest {
                 "undo = STATE");
         Check.edge("promise 14", sentence + ", all undone between", STILL, gusts(1, 30), undone(24), "wind 1 0 = 6",
                 gusts(7, 31), "count 5 = 24", undone(24), "wind 1 0 = 7", "undo = STATE");
-        Check.edge("promise 14", sentence + ": 40 HOURS", STILL, "hours 20 = 0", "hours 20 = 0", "count 5 = 24", undone(24),
+        Check.edge("promise 14", sentence + ": 40 HOURS", STILL, "hours 20 = 0", "hours 20 = 0", "count 5 = 24",
+                undone(24),
                 "count 2 = 16", "undo = STATE");
         Check.edge("promise 14", "the latest first", STILL, "gust 0 1 = 0", "gust 1 2 = 0", "gust 2 3 = 0", "undo = 2",
                 "wind 2 0 = 0", "wind 1 0 = 2", "undo = 1", "wind 1 0 = 0", "wind 0 0 = 1", "undo = 0", "wind 0 0 = 0");
@@ -213,7 +221,8 @@ public final class ActEdgesTest {
                 "turn 5 = 0", "undo = 1", "cell 5 3 = 1", "undo = 0", "cell 5 3 = 0");
         Check.edge("promise 14", "each can be undone: an HOUR",
                 "read a31,5,0,0;b2,31,0,0;s0,0,30;v1,1,4;h3,3,9; = 3", "turn 0 = 1", "hours 1 = 1", "count 2 = 1",
-                "wind 0 0 = 1", "wind 1 0 = 4", "undo = 1", "count 2 = 0", "wind 0 0 = 31", "wind 1 0 = 5", "kind 0 = 3",
+                "wind 0 0 = 1", "wind 1 0 = 4", "undo = 1", "count 2 = 0", "wind 0 0 = 31", "wind 1 0 = 5",
+                "kind 0 = 3",
                 "cell 0 2 = 30", "cell 0 3 = 1", "kind 5 = 5", "cell 5 2 = 4", "count 1 = 3", "cell 4 0 = 31");
         Check.edge("promise 14", "nothing else becomes another", "read a1,2,3,4;b5,6,7,8; = 0", "image 0 = 1",
                 "row 0 0 3 = 3", "text a3", "gust 0 9 = 1", "image 1 = 1", "undo = 0", "count 0 = 1", "count 6 = 2",
@@ -221,13 +230,21 @@ public final class ActEdgesTest {
     }
 
     private static void cell() {
-        Check.edge("promise 15", NO_PASS, Check.beyond("cell # 0", 0, 15, "STATE"), Check.beyond("cell 0 #", 0, 3, "STATE"));
-        Check.edge("promise 15", "BAD", SIX, Check.beyond("cell # 0", 0, 15, "BAD"), Check.beyond("cell 0 #", 0, 3, "BAD"),
+        Check.edge("promise 15", NO_PASS, Check.beyond("cell # 0", 0, 15, "STATE"), Check.beyond("cell 0 #",
+                0, 3, "STATE"));
+        Check.edge("promise 15", "BAD", SIX, Check.beyond("cell # 0", 0, 15, "BAD"), Check.beyond("cell 0 #",
+                0, 3, "BAD"),
                 Check.beyond("cell # 1", 0, 15, "BAD"), Check.beyond("cell 15 #", 0, 3, "BAD"));
         Check.edge("promise 15", "NONE: there is no WORK (1 to 3)", STILL, Check.each(0, 15, "cell # 1 = NONE"),
                 Check.each(0, 15, "cell # 2 = NONE"), Check.each(0, 15, "cell # 3 = NONE"),
                 Check.each(0, 15, "cell # 0 = 0"));
-        Check.edge("promise 15", "whether that is OPEN (1, 0; 0 of all but shutters)", SIX, "turn 2 = 1", "cell 2 3 = 1",
+        Check.edge("promise 15", "1 the KIND of its WORK, 2 what that HOLDS",
+                STILL, Check.each(1, 5, "setUp # # 0 = #"),
+                "setUp 15 1 99 = 6", Check.each(1, 5, "cell # 1 = #"), Check.each(1, 5, "cell # 2 = 0"),
+                "cell 15 1 = 1",
+                "cell 15 2 = 99");
+        Check.edge("promise 15", "whether that is OPEN (1, 0; 0 of all but shutters)", SIX, "turn 2 = 1",
+                "cell 2 3 = 1",
                 "cell 0 3 = 0", "cell 1 3 = 0", "cell 3 3 = 0", "cell 4 3 = 0", "cell 5 3 = 0", "turn 2 = 0",
                 "cell 2 3 = 0");
         Check.edge("promise 15", "NONE: it broke", "read a2,0,0,0;b0,0,0,0;s0,0,1; = 1", "turn 0 = 1", "hours 1 = 0",
@@ -245,7 +262,8 @@ public final class ActEdgesTest {
             Check.edge("promise 15", "a half (cut) goes to the north, the rest to the south", split, "setUp 1 1 99 = 1",
                     "cell 4 0 = " + half, "cell 5 0 = 0", "cell 6 0 = " + left, "cell 1 0 = " + v);
             Check.edge("promise 15", "a net lets a half (cut) on, what is left goes as by a wall", split,
-                    "setUp 1 2 99 = 1", "cell 4 0 = " + left / 2, "cell 5 0 = " + half, "cell 6 0 = " + (left - left / 2));
+                    "setUp 1 2 99 = 1",
+                "cell 4 0 = " + left / 2, "cell 5 0 = " + half, "cell 6 0 = " + (left - left / 2));
             Check.edge("promise 15", "a shutter as a wall, but lets all on, if it is OPEN", split, "setUp 1 3 99 = 1",
                     "cell 4 0 = " + half, "cell 5 0 = 0", "cell 6 0 = " + left, "turn 1 = 1", "cell 4 0 = 0",
                     "cell 5 0 = " + v, "cell 6 0 = 0");
@@ -276,18 +294,22 @@ public final class ActEdgesTest {
         int[][] first = {{0, 4}, {3, 2}, {0, 4}, {0, 0}, {0, 0}};
         int[][] last = {{3, 0}, {2, 3}, {3, 0}, {7, 0}, {7, 0}};
         for (int kind = 1; kind <= 5; kind++) {
-            Check.edge("promise 19", "what goes behind X 3 LEAVES by the row to which it goes", "read a7,0,0,0;b0,0,0,0; = 0",
+            Check.edge("promise 19", "what goes behind X 3 LEAVES by the row to which it goes",
+                "read a7,0,0,0;b0,0,0,0; = 0",
                     "setUp 12 " + kind + " 9 = 1", "leaves 0 0 = " + first[kind - 1][0], "leaves 1 0 = "
                     + first[kind - 1][1], "leaves 2 0 = 0", "leaves 3 0 = 0", "leaves 1 1 = "
                     + (kind == 5 ? 7 : first[kind - 1][1]));
-            Check.edge("promise 19", "what goes behind X 3 LEAVES by the row to which it goes", "read a0,0,0,7;b0,0,0,0; = 0",
-                    "setUp 15 " + kind + " 9 = 1", "leaves 0 0 = 0", "leaves 1 0 = 0", "leaves 2 0 = " + last[kind - 1][0],
+            Check.edge("promise 19", "what goes behind X 3 LEAVES by the row to which it goes",
+                "read a0,0,0,7;b0,0,0,0; = 0",
+                    "setUp 15 " + kind + " 9 = 1", "leaves 0 0 = 0", "leaves 1 0 = 0",
+                "leaves 2 0 = " + last[kind - 1][0],
                     "leaves 3 0 = " + last[kind - 1][1], "leaves 2 1 = " + (kind == 5 ? 0 : last[kind - 1][0]));
         }
     }
 
     private static void wind() {
-        Check.edge("promise 16", NO_PASS, Check.beyond("wind # 0", 0, 3, "STATE"), Check.beyond("wind 0 #", 0, 1, "STATE"));
+        Check.edge("promise 16", NO_PASS, Check.beyond("wind # 0", 0, 3, "STATE"), Check.beyond("wind 0 #",
+                0, 1, "STATE"));
         Check.edge("promise 16", "BAD", "read a1,2,3,4;b5,6,7,8; = 0", Check.beyond("wind # 0", 0, 3, "BAD"),
                 Check.beyond("wind # 1", 0, 3, "BAD"), Check.beyond("wind 0 #", 0, 1, "BAD"), "wind 0 0 = 1",
                 "wind 3 0 = 4", "wind 0 1 = 5", "wind 3 1 = 8");

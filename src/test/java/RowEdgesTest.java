@@ -24,7 +24,8 @@ public final class RowEdgesTest {
                 "walls 0 0 -1 = STATE", "hidden 1 0 0 0 = STATE", "most 0 0 = STATE", "lots 0 0 0 0 = STATE",
                 "image 0 = STATE", "image 1 = STATE", "kind 0 = STATE", "as 0 0 = STATE", "ask 0 0 = STATE");
         Check.edge("promise 1", "none at first: nothing is kept, told, or asked yet", "undo = STATE",
-                "restore 0 = STATE", "restore 1 = STATE", "fault = 0", "status = 0", Check.each(0, 15, "trace # = NONE"),
+                "restore 0 = STATE", "restore 1 = STATE", "fault = 0", "status = 0",
+                Check.each(0, 15, "trace # = NONE"),
                 Check.each(0, 6, "count # = 0"));
     }
 
@@ -47,19 +48,22 @@ public final class RowEdgesTest {
         Check.edge("promise 2", "LANE (0 bytes, 1 shorts, 2 ints)", "row 0 0 1 = 1", "row 1 1 1 = 1", "row 2 2 1 = 1",
                 "set 0 0 32768 = 0", "set 1 0 32768 = -32768", "set 2 0 32768 = 32768",
                 Check.beyond("row 3 # 1", 0, 2, "BAD"), "count 0 = 3");
-        Check.edge("promise 2", "BAD: LANE, what is there stays", "row 0 1 2 = 2", Check.beyond("row 0 # 1", 0, 2, "BAD"),
+        Check.edge("promise 2", "BAD: LANE, what is there stays", "row 0 1 2 = 2", Check.beyond("row 0 # 1",
+                0, 2, "BAD"),
                 "set 0 1 32768 = -32768");
     }
 
     private static void items() {
         Check.edge("promise 2", "0 ITEMS", "row 0 0 0 = 0", "count 0 = 1", "set 0 0 1 = PLACE", "copy 0 0 0 0 0 = 0",
                 "copy 0 0 0 0 1 = PLACE", "drop 0 = 0");
-        Check.edge("promise 2", "to 40 ITEMS", "row 0 2 40 = 40", "set 0 39 7 = 7", "set 0 40 7 = PLACE", "drop 0 = 40");
+        Check.edge("promise 2", "to 40 ITEMS", "row 0 2 40 = 40", "set 0 39 7 = 7", "set 0 40 7 = PLACE",
+                "drop 0 = 40");
         Check.edge("promise 2", "BAD: n above 40", "row 0 0 41 = BAD", "row 0 0 " + MOST + " = BAD", "count 0 = 0",
                 "row 0 0 39 = 39", "row 0 0 41 = BAD", "drop 0 = 39");
         Check.edge("promise 2", "SIZE: fewer than none", "row 0 0 -1 = SIZE", "row 0 0 " + LEAST + " = SIZE",
                 "row 0 0 -40 = SIZE", "count 0 = 0", "set 0 0 1 = NULL");
-        Check.edge("promise 2", "BAD is the first of these that fits, then SIZE", "row 8 0 -1 = BAD", "row -1 0 -1 = BAD",
+        Check.edge("promise 2", "BAD is the first of these that fits, then SIZE", "row 8 0 -1 = BAD",
+                "row -1 0 -1 = BAD",
                 "row 0 3 -1 = BAD", "row 0 -1 -1 = BAD", "row 0 0 -1 = SIZE", "row 8 0 41 = BAD");
         for (int lane = 0; lane <= 2; lane++) {
             Check.edge("promise 2", "ITEMS, 0 at first", STILL, "row 0 " + lane + " 40 = 40", "stands 0 0 = 40",
@@ -113,12 +117,14 @@ public final class RowEdgesTest {
         Check.edge("promise 4", "PLACE: n below 0, or beyond an end", "row 0 0 40 = 40", "row 1 0 40 = 40",
                 "copy 0 0 1 0 40 = 40", "copy 0 0 1 0 41 = PLACE", "copy 0 0 1 0 -1 = PLACE",
                 "copy 0 5 1 5 -1 = PLACE", "copy 0 1 1 1 " + MOST + " = PLACE", "copy 0 0 1 0 " + LEAST + " = PLACE",
-                "copy 0 " + MOST + " 1 0 " + LEAST + " = PLACE", "copy 0 " + MOST + " 1 " + MOST + " " + MOST + " = PLACE",
+                "copy 0 " + MOST + " 1 0 " + LEAST + " = PLACE",
+                "copy 0 " + MOST + " 1 " + MOST + " " + MOST + " = PLACE",
                 "copy 0 40 1 40 -40 = PLACE");
         Check.edge("promise 4", "no ITEMS, at the very end", "row 0 0 3 = 3", "row 1 0 5 = 5", "copy 0 3 1 5 0 = 0",
                 "copy 0 4 1 5 0 = PLACE", "copy 0 3 1 6 0 = PLACE", "row 2 0 0 = 0", "copy 2 0 1 0 0 = 0",
                 "copy 1 0 2 0 0 = 0", "copy 1 0 2 0 1 = PLACE", "copy 2 0 1 0 1 = PLACE");
-        Check.edge("promise 4", "what is found changes nothing", STILL, "row 0 0 3 = 3", "row 1 0 2 = 2", "set 0 0 1 = 1",
+        Check.edge("promise 4", "what is found changes nothing", STILL, "row 0 0 3 = 3", "row 1 0 2 = 2",
+                "set 0 0 1 = 1",
                 "set 0 1 2 = 2", "set 0 2 3 = 3", "copy 0 0 1 0 3 = PLACE", "item 1 0 0 = 0", "item 1 0 1 = 0",
                 "copy 0 1 1 1 2 = PLACE", "item 1 0 0 = 0", "item 1 0 1 = 0");
     }
@@ -150,7 +156,8 @@ public final class RowEdgesTest {
                         "copy 0 0 1 0 1 = " + (a == b ? "1" : "STORE"), "copy 1 0 0 0 0 = " + (a == b ? "0" : "STORE"));
             }
         }
-        Check.edge("promise 4", "of several the first in time: BAD, NULL, STORE, PLACE", "row 0 0 1 = 1", "row 1 1 1 = 1",
+        Check.edge("promise 4", "of several the first in time: BAD, NULL, STORE, PLACE", "row 0 0 1 = 1",
+                "row 1 1 1 = 1",
                 "copy 8 -1 5 -1 -1 = BAD", "copy 5 -1 8 -1 -1 = BAD", "copy 5 -1 0 -1 -1 = NULL",
                 "copy 1 -1 5 -1 -1 = NULL", "copy 0 -1 1 -1 -1 = STORE", "copy 0 9 1 9 9 = STORE",
                 "copy 0 -1 0 -1 -1 = PLACE");
@@ -162,7 +169,8 @@ public final class RowEdgesTest {
         Check.edge("promise 5", "missing from now on", STILL, "row 0 0 16 = 16", "row 1 0 16 = 16", "drop 0 = 16",
                 "count 0 = 1", "set 0 0 1 = NULL", "copy 0 0 1 0 0 = NULL", "copy 1 0 0 0 0 = NULL",
                 "stands 0 0 = NULL", "hidden 1 0 0 0 = NULL", "stands 1 0 = 40");
-        Check.edge("promise 5", "how many ITEMS it had: none to 40", "row 0 0 0 = 0", "row 1 1 40 = 40", "row 2 2 1 = 1",
+        Check.edge("promise 5", "how many ITEMS it had: none to 40", "row 0 0 0 = 0", "row 1 1 40 = 40",
+                "row 2 2 1 = 1",
                 "drop 0 = 0", "drop 1 = 40", "drop 2 = 1", "count 0 = 0");
     }
 }

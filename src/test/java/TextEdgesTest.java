@@ -6,6 +6,7 @@ public final class TextEdgesTest {
     public static void main(String[] args) {
         tape();
         empty();
+        shorter();
         tokens();
         figures();
         winds();
@@ -19,13 +20,16 @@ public final class TextEdgesTest {
     }
 
     private static void tape() {
-        Check.edge("promise 6", "A byte (0 to 255)", "feed 0 = 1", "feed 255 = 2", Check.beyond("feed #", 0, 255, "BAD"),
+        Check.edge("promise 6", "A byte (0 to 255)", "feed 0 = 1", "feed 255 = 2", Check.beyond("feed #",
+                0, 255, "BAD"),
                 "count 6 = 2");
-        Check.edge("promise 6", "at most 120 bytes; FULL", Check.each(1, 120, "feed 97 = #"), "feed 97 = FULL", "count 6 = 120", "feed 256 = BAD", "feed -1 = BAD",
+        Check.edge("promise 6", "at most 120 bytes; FULL", Check.each(1, 120, "feed 97 = #"), "feed 97 = FULL",
+                "count 6 = 120", "feed 256 = BAD", "feed -1 = BAD",
                 "feed 0 = FULL", "count 6 = 120", "pass = -1000101", "count 6 = 0", "feed 97 = 1");
         Check.edge("promise 6", "what is refused changes nothing: the tape is read as it was", "text " + WINDS,
                 "feed 256 = BAD", "feed -1 = BAD", "pass = 0", "wind 3 1 = 8");
-        Check.edge("promise 6", "FULL: a byte that is refused is not kept", Check.each(1, 120, "feed 97 = #"), "feed 98 = FULL", "pass = -1000101",
+        Check.edge("promise 6", "FULL: a byte that is refused is not kept", Check.each(1, 120, "feed 97 = #"),
+                "feed 98 = FULL", "pass = -1000101",
                 "read " + WINDS + " = 0");
         Check.edge("promise 7", "the tape, 120 bytes of it: the fault is behind six works", "text "
                 + "a01,02,03,04;b05,06,07,08;w00,00,01;n00,01,02;s00,02,03;h00,03,04;v01,00,05;w01,01,06;",
@@ -36,10 +40,23 @@ public final class TextEdgesTest {
     private static void empty() {
         Check.edge("promise 7", "the tape, empty then", "read " + WINDS + " = 0", "count 6 = 0", "pass = -1000100",
                 "fault = 1", "count 6 = 0", "wind 0 0 = 1");
-        Check.edge("promise 7", "the end: how many bytes there are: none", "pass = -1000100", "fault = 1", "pass = -1000100",
+        Check.edge("promise 7", "the end: how many bytes there are: none", "pass = -1000100", "fault = 1",
+                "pass = -1000100",
                 "gust 0 0 = STATE");
         Check.edge("promise 7", "the tape, empty then, behind a FAULT, too", "read a1x = -1000102", "count 6 = 0",
                 "read " + WINDS + " = 0", "count 6 = 0");
+    }
+
+    private static void shorter() {
+        String sentence = "the tape, empty then: nothing of a longer one is read";
+        Check.edge("promise 7", sentence, "read a12;3,4,5;x = -1000103", "read a1 = -1000102", "fault = 1",
+                "read a = -1000101", "pass = -1000100");
+        Check.edge("promise 7", sentence, "read a1,2,3,4;b5,6,7,89;w0,0,1; = -1000116", "fault = 2",
+                "read a1,2,3,4;b5,6,7,8 = -1000117", "fault = 1", "read a1,2,3,4;b5,6,7,8; = 0");
+        Check.edge("promise 7", sentence, "read " + WINDS + "w0,0,1;w0,1,1; = 2", "read " + WINDS + "w0,0,1; = 1",
+                "read " + WINDS + " = 0", "read " + WINDS + "w0,0,1 = -1000124");
+        Check.edge("promise 7", sentence + " (120 figures)", Check.each(1, 120, "feed 49 = #"), "pass = -1000100",
+                "read a1 = -1000102", "read a11 = -1000103", "read a1,1 = -1000104");
     }
 
     /** In place of each TOKEN, by turns, what can nowhere stand, or not there. */
@@ -89,7 +106,8 @@ public final class TextEdgesTest {
             int works = text.contains("w") ? 1 : 0;
             for (String run : new String[] {"000", "001", "010", "100", "999", "0000", "000000000000"}) {
                 faultOf("1 a run of three figures, at its first", bytes(text.replace("#", run)), place, 1);
-                faultOf("1 a run of three figures, at its first, where the text ends", bytes(text.substring(0, place) + run),
+                faultOf("1 a run of three figures, at its first, where the text ends",
+                bytes(text.substring(0, place) + run),
                         place, 1);
             }
             for (String run : new String[] {"0", "00", "1", "01", "3", "03"}) {
@@ -145,12 +163,14 @@ public final class TextEdgesTest {
                 "cell 1 2 = 99", "cell 2 2 = 0");
         faultOf("1 HOLDS of three figures", bytes(WINDS + "w0,0,100;"), 23, 1);
         faultOf("2 a Y with which the cell has a work, told as 00", bytes(WINDS + "w1,0,1;n01,00,1;"), 29, 2);
-        faultOf("2 a Y with which the cell has a work, not the one before", bytes(WINDS + "w1,2,1;n2,1,1;s1,2,1;"), 35, 2);
+        faultOf("2 a Y with which the cell has a work, not the one before", bytes(WINDS + "w1,2,1;n2,1,1;s1,2,1;"),
+                35, 2);
         Check.edge("promise 7", "a cell without a work", "read " + WINDS + "w1,2,1;n2,1,1;s1,1,1;h2,2,1; = 4");
     }
 
     private static void room() {
-        Check.edge("promise 7", "WORKS 0 .. 5, 6 at most", "read " + WINDS + " = 0", "read " + SIX + " = 6", "count 1 = 6");
+        Check.edge("promise 7", "WORKS 0 .. 5, 6 at most", "read " + WINDS + " = 0", "read " + SIX + " = 6",
+                "count 1 = 6");
         for (String letter : new String[] {"w", "n", "s", "h", "v"}) {
             faultOf("3 a work more than there is room for (its letter)", bytes(SIX + letter + "3,3,1;"), 60, 3);
             faultOf("3 a work more, and the text ends", bytes(SIX + letter), 60, 3);
@@ -182,6 +202,10 @@ public final class TextEdgesTest {
         faultOf("the first TOKEN that has one", bytes("a1,x2,99,4;"), 3, 1);
         faultOf("the first TOKEN that has one", bytes("a1,99,x"), 3, 2);
         faultOf("the first TOKEN that has one", bytes("a32"), 1, 2);
+        for (String rest : new String[] {"", "x", ";", ",", ",100;", "a"}) {
+            faultOf("the first TOKEN that has one: a Y with which the cell has a work",
+                    bytes(WINDS + "w0,0,1;n0,0" + rest), 28, 2);
+        }
         faultOf("of one TOKEN the least: 1 ahead of 2", bytes("a320,2,3,4;"), 1, 1);
         faultOf("of one TOKEN the least: 1 ahead of 2", bytes(WINDS + "w0,0,1;n0,000"), 28, 1);
         faultOf("its first byte: a NUMBER of two figures", bytes("a1,2,45,4;"), 5, 2);
@@ -199,10 +223,12 @@ public final class TextEdgesTest {
         Check.edge("promise 7", "a FAULT: all but the tape and what fault() tells stays",
                 "read " + WINDS + "s0,0,99;w1,1,40; = 2", "turn 0 = 1", "hours 1 = 2", "image 0 = 1", "ask 5 0 = 53",
                 "row 0 0 -1 = SIZE", "read a9,9,9,9;b0,0,0,0;n0,0,9;n0,0,9; = -1000128", "fault = 2", "count 6 = 0",
-                "status = 4", "trace 0 = 11", "count 5 = 2", "count 2 = 1", "count 1 = 2", "wind 0 0 = 6", "wind 0 1 = 5",
+                "status = 4", "trace 0 = 11", "count 5 = 2", "count 2 = 1", "count 1 = 2", "wind 0 0 = 6",
+                "wind 0 1 = 5",
                 "kind 0 = 3", "cell 0 3 = 1", "cell 5 2 = 40", "kind 1 = NONE", "undo = 1", "undo = 0", "cell 0 3 = 0",
                 "restore 0 = 1", "cell 0 3 = 1");
-        Check.edge("promise 7", "a FAULT with no PASS before", "read a1 = -1000102", "gust 0 0 = STATE", "image 0 = STATE",
+        Check.edge("promise 7", "a FAULT with no PASS before", "read a1 = -1000102", "gust 0 0 = STATE",
+                "image 0 = STATE",
                 "count 2 = 0", "count 1 = 0");
     }
 
