@@ -981,8 +981,6 @@ public final class WindCarver {
     /** A WORK that is asked, and THE TRACE of the BODIES that begin. */
     private static final class Asked {
         static final int MOST_TRACED = 16, DEEPEST = 16;
-        static final int[] SIZE_BODY = {10, 11, 12, 11, 13, 14};
-        static final int[] MARK_BODY = {20, 21, 24, 22, 23, 23};
 
         final int[] trace = new int[MOST_TRACED];
         int traced = 0;
@@ -993,12 +991,34 @@ public final class WindCarver {
 
         int askSize() {
             traced = 0;
-            return body(this, SIZE_BODY[kind], 0);
+            return body(this, sizeBody(kind), 0);
         }
 
         int askMark() {
             traced = 0;
-            return body(this, MARK_BODY[kind], 0);
+            return body(this, markBody(kind), 0);
+        }
+
+        private static int sizeBody(int kind) {
+            switch (kind) {
+                case WALL:
+                case SHUTTER: return 11;
+                case NET: return 12;
+                case HAND: return 13;
+                case VANE: return 14;
+                default: return 10;
+            }
+        }
+
+        private static int markBody(int kind) {
+            switch (kind) {
+                case WALL: return 21;
+                case NET: return 24;
+                case SHUTTER: return 22;
+                case HAND:
+                case VANE: return 23;
+                default: return 20;
+            }
         }
 
         private static int body(Asked work, int number, int depth) {
@@ -1009,14 +1029,14 @@ public final class WindCarver {
             int next = depth + 1;
             switch (number) {
                 case 10: return work.holds;
-                case 11: return body(work, 10, next) + body(work, MARK_BODY[work.kind], next);
+                case 11: return body(work, 10, next) + body(work, markBody(work.kind), next);
                 case 12: return -body(work, 11, next);
                 case 13: return body(work, 10, next) - 100;
                 case 14: return 2 * body(work, 13, next);
                 case 20: return work.cell;
                 case 21: return body(work, 20, next) + work.felt;
                 case 22: return body(work, 21, next) - 1000;
-                case 23: return body(work, 20, next) - body(work, SIZE_BODY[work.kind], next);
+                case 23: return body(work, 20, next) - body(work, sizeBody(work.kind), next);
                 case 24: return 2 * body(work, 21, next);
                 default: return 0;
             }
